@@ -21,6 +21,9 @@ final class Model {
     final List<int[]> seen = new ArrayList<>();
     final long[][] sheets = new long[4][];
     final int[] forms = new int[4];
+    /** The texts of which the faults are known: to find one takes long, and it is asked for often. */
+    private final String[] judgedTexts = new String[2];
+    private final int[] faults = new int[2];
     int law;
     int finding;
 
@@ -71,6 +74,14 @@ final class Model {
         if (!in(text, 0, 1)) {
             return -2;
         }
+        if (!texts[text].equals(judgedTexts[text])) {
+            judgedTexts[text] = texts[text];
+            faults[text] = faultOf(text);
+        }
+        return faults[text];
+    }
+
+    private int faultOf(int text) {
         for (int end = 1; end <= texts[text].length(); end++) {
             if (!canBegin(text, texts[text].substring(0, end))) {
                 return end - 1;
