@@ -1010,7 +1010,6 @@ public final class OthersHours {
         }
 
         int longestRow(int person, boolean flight) {
-            Arrays.fill(rows, 0);
             int longest = 0;
             for (int hour = 0; hour < HOURS; hour++) {
                 longest = Math.max(longest, rowTo(person, hour, flight));
@@ -1019,7 +1018,6 @@ public final class OthersHours {
         }
 
         int firstOfRow(int person, boolean flight) {
-            Arrays.fill(rows, 0);
             int longest = 0;
             int first = NONE;
             for (int hour = 0; hour < HOURS; hour++) {
@@ -1032,7 +1030,7 @@ public final class OthersHours {
             return first;
         }
 
-        /** Carries the rows on by this hour; the longest that ends in it. */
+        /** Carries the rows on by this hour, from hour 0 on; the longest that ends in it. */
         private int rowTo(int person, int hour, boolean flight) {
             System.arraycopy(rows, 0, rowsAhead, 0, PERSONS);
             int longest = 0;
@@ -1044,6 +1042,7 @@ public final class OthersHours {
             return longest;
         }
 
+        /** No row is ahead of hour 0: what rows hold then is left from an earlier question. */
         private int rowAhead(int body, int hour, boolean flight) {
             int longest = 0;
             for (int from = 0; from < PERSONS && hour > 0; from++) {

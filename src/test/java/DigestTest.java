@@ -22,7 +22,22 @@ public final class DigestTest {
             alike("law " + law, x);
         }
         changesNothing(x);
+        alike("few hours", fewHours());
         CHECKS.end();
+    }
+
+    /** 1 has just eight hours of its own body and one of 2; no two bodies meet as 0 and 1 do. */
+    private static OthersHours fewHours() {
+        StringBuilder grants = new StringBuilder("2231");
+        for (int hour = 0; hour < 16; hour++) {
+            grants.append(";1").append(hour / 10).append(hour % 10).append('0');
+        }
+        OthersHours x = Checks.with(grants.toString(), "00022;11163;22042;33002");
+        for (int body = 0; body < 6; body++) {
+            x.home(body, body);
+        }
+        x.home(1, 2);
+        return x;
     }
 
     private static void alike(String name, OthersHours x) {

@@ -48,6 +48,11 @@ public final class PlansTest {
             CHECKS.due("fewest(0, " + w[0] + ", 0)", x.fewest(0, w[0], 0), w[1]);
             CHECKS.due("fewest(0, " + w[0] + ", 1)", x.fewest(0, w[0], 1), w[2]);
         }
+        OthersHours six = Checks.with("1000;2000;3000;4000;5000", "");
+        CHECKS.due("fewest(0, 28, 1) of six", six.fewest(0, 28, 1), 31);
+        CHECKS.due("fewest(0, 29, 1) of six", six.fewest(0, 29, 1), 63);
+        CHECKS.due("fewest(0, 29, 0) of six", six.fewest(0, 29, 0), 6);
+        CHECKS.due("fewest(0, 30, 0) of six", six.fewest(0, 30, 0), -1);
         // 5 has one hour of 3, and all of its own: one alone is the least bits if it's enough
         CHECKS.due("fewest(5, 1, 1)", x.fewest(5, 1, 1), 8);
         CHECKS.due("fewest(5, 2, 1)", x.fewest(5, 2, 1), 32);
@@ -271,6 +276,8 @@ public final class PlansTest {
         CHECKS.due("law 1: heir(2, 3)", x.heir(2, 3), 24);
         x.setLaw(2);
         CHECKS.due("law 2: heir(2, 1)", x.heir(2, 1), 26);
+        CHECKS.due("the first cell of all", Checks.with("0001", "").heir(1, 2), 25);
+        CHECKS.due("the last cell of all", Checks.with("5231", "").heir(1, 2), 25);
         // what one owns of its own body stays with it, told or not
         CHECKS.due("told its own", Checks.with("0000;0010;1020", "").heir(0, 2), 25);
     }
