@@ -650,4 +650,31 @@ final class Model {
             seen.size(), law, round, finding};
         return in(what, 0, 8) ? all[what] : -2;
     }
+
+    long digest() {
+        List<Integer> all = new ArrayList<>();
+        for (int what = 0; what <= 7; what++) {
+            all.add(count(what));
+        }
+        all.addAll(List.of(fault(0), fault(1), judged()));
+        for (int it = 0; it < 6; it++) {
+            all.addAll(List.of(free(it), holds(it)));
+            for (int hour : new int[] {0, 9, 20}) {
+                all.addAll(List.of(owns(it, hour), acts(it, hour), deep(it, hour)));
+                all.addAll(List.of(body(it, hour, 0), body(it, hour, 1), body(it, hour, 2)));
+            }
+            all.addAll(List.of(soonest(it, 9), fewest(it, 9, 0), fewest(it, 9, 1)));
+            all.addAll(List.of(run(it, 0), run(it, 1), run(it, 2), run(it, 3), heir(it, 0)));
+        }
+        all.addAll(List.of(wronged(0), wronged(1), wronged(2), gentlest(), met(0, 1), slips(0, 1), trades(), word()));
+        for (int grant = 0; grant < entries(0).length; grant++) {
+            all.add(frees(grant));
+        }
+        all.addAll(List.of(suspects(), likely()));
+        long h = 17;
+        for (int part : all) {
+            h = 31 * h + part;
+        }
+        return h;
+    }
 }
