@@ -8,6 +8,15 @@ public final class DigestTest {
     public static void main(String[] args) {
         alike("new", new OthersHours());
         alike("faulty", Checks.with("0031;1042;", "0000"));
+        for (int law = 0; law < 3; law++) {
+            alike("law " + law, muchTold(law));
+        }
+        changesNothing(muchTold(2));
+        alike("few hours", fewHours());
+        CHECKS.end();
+    }
+
+    private static OthersHours muchTold(int law) {
         OthersHours x = Checks.with("0091;1092;2090;3204;4003;0205;5000", "00001;10091;55202;55212;44203");
         x.home(0, 3);
         x.home(5, 2);
@@ -17,13 +26,8 @@ public final class DigestTest {
             }
         }
         x.seen(5, 20, 2);
-        for (int law = 0; law < 3; law++) {
-            x.setLaw(law);
-            alike("law " + law, x);
-        }
-        changesNothing(x);
-        alike("few hours", fewHours());
-        CHECKS.end();
+        x.setLaw(law);
+        return x;
     }
 
     /** 1 has just eight hours of its own body and one of 2; no two bodies meet as 0 and 1 do. */

@@ -154,7 +154,8 @@ final class EdgesOfActing {
     }
 
     private void wronged() {
-        e.terms("WRONGED of a LAW: HOURS of BODIES, together, in which another one than its own PERSON ACTS, or nobody.");
+        e.terms("WRONGED of a LAW: HOURS of BODIES, together, in which another one than its own PERSON ACTS, "
+            + "or nobody.");
         int[][] want = {{0, 0, 0}, {1, 1, 1}, {20, 20, 20}, {5, 5, 5}, {6, 6, 0}, {6, 6, 0}, {0, 0, 0}, {2, 2, 2}};
         String[] texts = {"", "0001", Edges.grants(20), chainOf(7, 5), ringOf(7, 6), tailOf(7), "3033", "0001;5230"};
         for (int i = 0; i < texts.length; i++) {

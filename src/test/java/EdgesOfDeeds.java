@@ -232,7 +232,8 @@ final class EdgesOfDeeds {
         String rings = "0071;1070;0081;1080";
         int[] want = {0, Checks.bits(7, 9), 0};
         for (int law = 0; law < 3; law++) {
-            e.due("where nobody acts, law " + law + ": slips(0, 1)", Edges.byLaw(law, rings, "").slips(0, 1), want[law]);
+            OthersHours x = Edges.byLaw(law, rings, "");
+            e.due("where nobody acts, law " + law + ": slips(0, 1)", x.slips(0, 1), want[law]);
         }
         StringBuilder text = new StringBuilder("1000");
         for (int hour = 1; hour < 20; hour++) {

@@ -25,7 +25,8 @@ final class EdgesOfPlans {
     private void soonest() {
         e.terms("SOONEST: n (1 to 99) HOURS of work are to be done by a PERSON, by all BODIES it ACTS in");
         OthersHours x = Checks.with("1000;2000;3010;4230", "");
-        int[][] want = {{1, 0}, {2, 0}, {3, 0}, {4, 1}, {5, 1}, {6, 2}, {26, 22}, {27, 23}, {28, 23}, {29, -1}, {99, -1}};
+        int[][] want = {{1, 0}, {2, 0}, {3, 0}, {4, 1}, {5, 1}, {6, 2}, {26, 22}, {27, 23}, {28, 23},
+            {29, -1}, {99, -1}};
         for (int[] w : want) {
             e.due("soonest(0, " + w[0] + ")", x.soonest(0, w[0]), w[1]);
         }

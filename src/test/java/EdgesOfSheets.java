@@ -488,8 +488,8 @@ final class EdgesOfSheets {
     private void digest() {
         e.promise(41, "h is 17; h becomes 31 h and each of: count() 0 to 7; of texts fault(); judged(), "
             + "of PERSONS free(), holds(), of HOURS 0, 9, 20 owns(it, hour), acts(), deep(), body(it, hour, 0 to 2); "
-            + "soonest(it, 9), fewest(it, 9, 0 and 1), run(it, 0 to 3), heir(it, 0) (as it is told); of LAWS wronged(); "
-            + "gentlest(), met(0, 1), slips(0, 1), trades(), word(), of GRANTS frees(); suspects(), likely(); "
+            + "soonest(it, 9), fewest(it, 9, 0 and 1), run(it, 0 to 3), heir(it, 0) (as it is told); "
+            + "of LAWS wronged(); gentlest(), met(0, 1), slips(0, 1), trades(), word(), of GRANTS frees(); suspects(), likely(); "
             + "as longs that wrap.");
         e.due("new", new OthersHours().digest(), new Model().digest());
         OthersHours x = new OthersHours();
