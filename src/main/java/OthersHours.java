@@ -38,6 +38,7 @@ public final class OthersHours {
     private static final int SEEN_MOST = 8;
     private static final int[] DIGEST_HOURS = {0, 9, 20};
     private static final int ANY_NUMBER_BAD = -1000 + BAD;
+    private static final int LEAST_INT = -2147483648;
 
     private static final int SHEETS = 4;
     private static final int FORMS = 3;
@@ -477,12 +478,12 @@ public final class OthersHours {
 
     public int get(int s, int form, int i) {
         if (!isBelow(s, SHEETS) || !isBelow(form, FORMS)) {
-            return Integer.MIN_VALUE;
+            return LEAST_INT;
         }
         int wrong = sheets[s].findingAt(form, i);
         if (wrong != 0) {
             finding = wrong;
-            return Integer.MIN_VALUE;
+            return LEAST_INT;
         }
         return sheets[s].items[i];
     }

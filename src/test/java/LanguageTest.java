@@ -16,8 +16,7 @@ public final class LanguageTest {
     private static final String FORBIDDEN = "\\b(throw|throws|try|catch|synchronized|assert|package|protected|float|double"
         + "|Object|Random|Thread|Class|hashCode|toString|extends|lambda|yield|native|volatile|transient)\\b"
         + "|->|::|Exact\\(|\"|@|\\bstatic\\s*\\{";
-    private static final String LIBRARY = "Arrays.fill|System.arraycopy|Math.max|Math.min|Integer.bitCount"
-        + "|Integer.MIN_VALUE";
+    private static final String LIBRARY = "Arrays.fill|System.arraycopy|Math.max|Math.min|Integer.bitCount";
     private static final Pattern HEAD = Pattern.compile("^( {4}| {8})(?!return|new)[A-Za-z][\\w\\[\\] ]*?\\b(\\w+)\\(([^()]*)\\) \\{$");
 
     public static void main(String[] args) throws IOException {
